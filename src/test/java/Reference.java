@@ -1,6 +1,9 @@
+import java.util.ArrayList;
+import java.util.List;
+
 /**
- * The document's terms taken literally: cuts are arrays of sides, built one vertex after the other.
- * It shares no way of reckoning with the program.
+ * The document's terms taken literally: it lists all allowed cuts, each an array of sides, and reads
+ * every answer off that list. Like the program it goes through all cuts, but shares no code with it.
  */
 final class Reference {
     static final int BAD_VERTEX = -1;
@@ -10,10 +13,6 @@ final class Reference {
     private final int n;
     private final int[][] weights;
     private final boolean[][] glued;
-
-    private int least;
-    private int smallest;
-    private int[][] leastBetween;
 
     Reference(int vertices) {
         n = Math.max(2, Math.min(9, vertices));
@@ -74,12 +73,15 @@ final class Reference {
     }
 
     int least() {
-        lookAtAllCuts();
-        return least;
+        return leastOf(allowedCuts());
     }
 
     int smallest() {
-        lookAtAllCuts();
+        int smallest = NONE;
+        for (boolean[] cut : leastCuts()) {
+            int name = nameOf(cut);
+            smallest = smallest == NONE ? name : Math.min(smallest, name);
+        }
         return smallest;
     }
 
@@ -87,8 +89,9 @@ final class Reference {
         if (bad(u, v)) {
             return BAD_VERTEX;
         }
-        lookAtAllCuts();
-        return leastBetween[u][v];
+        List<boolean[]> cuts = allowedCuts();
+        cuts.removeIf(cut -> cut[u] == cut[v]);
+        return leastOf(cuts);
     }
 
     int value(int mask) {
@@ -100,12 +103,15 @@ final class Reference {
     }
 
     int separated() {
-        lookAtAllCuts();
+        boolean[][] marked = new boolean[n][n];
         int pairs = 0;
-        for (int u = 0; u < n; u++) {
-            for (int v = u + 1; v < n; v++) {
-                if (least != NONE && leastBetween[u][v] == least) {
-                    pairs++;
+        for (boolean[] cut : leastCuts()) {
+            for (int u = 0; u < n; u++) {
+                for (int v = u + 1; v < n; v++) {
+                    if (cut[u] != cut[v] && !marked[u][v]) {
+                        marked[u][v] = true;
+                        pairs++;
+                    }
                 }
             }
         }
@@ -119,54 +125,54 @@ final class Reference {
         return n == 2 ? NONE : new Reference(this, v).least();
     }
 
-    private void lookAtAllCuts() {
-        least = NONE;
-        smallest = NONE;
-        leastBetween = new int[n][n];
-        for (int[] row : leastBetween) {
-            java.util.Arrays.fill(row, NONE);
-        }
-        place(new boolean[n], 1);
+    private List<boolean[]> allowedCuts() {
+        List<boolean[]> cuts = new ArrayList<>();
+        place(new boolean[n], 1, cuts);
+        return cuts;
+    }
+
+    private List<boolean[]> leastCuts() {
+        List<boolean[]> cuts = allowedCuts();
+        int least = leastOf(cuts);
+        cuts.removeIf(cut -> valueOf(cut) != least);
+        return cuts;
+    }
+
+    private int leastOf(List<boolean[]> cuts) {
+        return cuts.stream().mapToInt(this::valueOf).min().orElse(NONE);
     }
 
     /** Vertex 0 is never in a name, so its side stays false. */
-    private void place(boolean[] side, int next) {
+    private void place(boolean[] side, int next, List<boolean[]> cuts) {
         if (next == n) {
-            lookAt(side);
+            if (nameOf(side) != 0 && isAllowed(side)) {
+                cuts.add(side.clone());
+            }
             return;
         }
         side[next] = false;
-        place(side, next + 1);
+        place(side, next + 1, cuts);
         side[next] = true;
-        place(side, next + 1);
+        place(side, next + 1, cuts);
     }
 
-    private void lookAt(boolean[] side) {
-        int name = 0;
+    private boolean isAllowed(boolean[] side) {
         for (int u = 0; u < n; u++) {
-            name += side[u] ? 1 << u : 0;
             for (int v = 0; v < n; v++) {
                 if (glued[u][v] && side[u] != side[v]) {
-                    return;
+                    return false;
                 }
             }
         }
-        if (name == 0) {
-            return;
+        return true;
+    }
+
+    private int nameOf(boolean[] side) {
+        int name = 0;
+        for (int v = 0; v < n; v++) {
+            name += side[v] ? 1 << v : 0;
         }
-        int value = valueOf(side);
-        if (least == NONE || value < least || value == least && name < smallest) {
-            least = value;
-            smallest = name;
-        }
-        for (int u = 0; u < n; u++) {
-            for (int v = 0; v < n; v++) {
-                boolean better = leastBetween[u][v] == NONE || value < leastBetween[u][v];
-                if (side[u] != side[v] && better) {
-                    leastBetween[u][v] = value;
-                }
-            }
-        }
+        return name;
     }
 
     private int valueOf(boolean[] side) {
