@@ -1,8 +1,20 @@
-/** Counts the answers that are not as due, and ends the test with exit code 1 if there was one. */
+/** Counts the answers that are not as due, and ends the program with exit code 1 if there was one. */
 final class Check {
     private static int wrong = 0;
 
     private Check() {
+    }
+
+    /** Runs one test and tells it by the words of the document that it stands for. */
+    static void test(String words, Runnable body) {
+        int before = wrong;
+        try {
+            body.run();
+        } catch (RuntimeException thrown) {
+            wrong++;
+            System.out.println("a call threw " + thrown + " at " + thrown.getStackTrace()[0]);
+        }
+        System.out.println((wrong == before ? "  holds:  " : "  BROKEN: ") + words);
     }
 
     static void due(String call, long got, long want) {
@@ -17,17 +29,5 @@ final class Check {
             System.out.println(wrong + " answers are not as due");
             System.exit(1);
         }
-    }
-
-    /** Reads a weight by a call that changes nothing. */
-    static int weightOf(GlobalMinCut graph, int u, int v) {
-        return graph.change(u, v, 0);
-    }
-
-    /** Reads whether a pair is glued, and leaves it as it was. */
-    static int gluedOf(GlobalMinCut graph, int u, int v) {
-        int was = graph.glue(u, v, true);
-        graph.glue(u, v, was == 1);
-        return was;
     }
 }
