@@ -1,6 +1,7 @@
 /** The section "What it is": how many vertices, which weights, how many calls. */
 public final class WhatItIsTest {
     private static final int LAST = 512;
+    private static final int SORTS = 6;
 
     public static void main(String[] args) {
         Check.test("A graph with two to nine VERTICES (0 to n - 1)", WhatItIsTest::verticesAreNumberedFromZero);
@@ -60,18 +61,23 @@ public final class WhatItIsTest {
 
     private static void lastCallsAnswer() {
         for (int kind = 0; kind < 9; kind++) {
-            lastCallAnswers(kind);
+            lastCallAnswers(kind, 0, 1);
+            // Once more with calls of one sort ahead of it, in case some sort is counted apart.
+            for (int sort = 0; sort < SORTS; sort++) {
+                lastCallAnswers(kind, sort, 0);
+            }
         }
     }
 
-    /** 511 calls go ahead, of all sorts; only the answer of the last one is looked at. */
-    private static void lastCallAnswers(int kind) {
+    /** 511 calls go ahead; only the answer of the last one is looked at. */
+    private static void lastCallAnswers(int kind, int sort, int step) {
         GlobalMinCut graph = Graphs.complete(9, 50);
         graph.weight(7, 8, 1);
         graph.glue(3, 4, true);
         int made = 36 + 2;
         while (made < LAST - 1) {
-            fill(graph, made);
+            fill(graph, sort);
+            sort = (sort + step) % SORTS;
             made++;
         }
         int[] due = {1, 2, 1, 351, 128, 351, 351, 15, 301};
@@ -102,8 +108,8 @@ public final class WhatItIsTest {
     }
 
     /** Calls that leave the graph as it is: changes to what was there, questions and refused calls. */
-    private static void fill(GlobalMinCut graph, int made) {
-        switch (made % 6) {
+    private static void fill(GlobalMinCut graph, int sort) {
+        switch (sort) {
             case 0:
                 graph.weight(7, 8, 1);
                 break;
