@@ -32,7 +32,19 @@ public final class FaceTest {
             System.out.println("the face is " + got);
         }
         Check.due("the face is the document's", got.equals(want) ? 1 : 0, 1);
+        Check.due("classes inside it", GlobalMinCut.class.getDeclaredClasses().length, 0);
+        Check.due("interfaces of it", GlobalMinCut.class.getInterfaces().length, 0);
+        Check.due("its parent is Object", GlobalMinCut.class.getSuperclass() == Object.class ? 1 : 0, 1);
+        noNameIsUsedTwice();
         Check.end();
+    }
+
+    /** Rule 1 of LANGUAGE.md: no private method bears the name of a public one. */
+    private static void noNameIsUsedTwice() {
+        TreeSet<String> names = new TreeSet<>();
+        for (Method method : GlobalMinCut.class.getDeclaredMethods()) {
+            Check.due("methods of the name " + method.getName(), names.add(method.getName()) ? 1 : 2, 1);
+        }
     }
 
     private static TreeSet<String> visibleMembers() {
